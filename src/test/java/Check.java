@@ -1,0 +1,100 @@
+import java.util.NoSuchElementException;
+
+/** What the tests share: texts fed to the tape, answers compared, an exit code at the end. */
+final class Check {
+    private static int wrong = 0;
+    private static int looked = 0;
+
+    private Check() {
+    }
+
+    static void due(String what, long got, long want) {
+        looked++;
+        if (got != want) {
+            wrong++;
+            System.out.println(what + " answered " + got + ", due is " + want);
+        }
+    }
+
+    static void due(String what, boolean got, boolean want) {
+        due(what, got ? 1 : 0, want ? 1 : 0);
+    }
+
+    static void end() {
+        System.out.println(looked + " answers looked at, " + wrong + " not as due");
+        if (wrong != 0 || looked == 0) {
+            System.exit(1);
+        }
+    }
+
+    /** Eight signs of a text as a long, the highest byte first; behind the text's end there are zeros. */
+    static long eight(String text, int from) {
+        long bytes = 0;
+        for (int i = from; i < from + 8; i++) {
+            bytes = bytes << 8 | (i < text.length() ? text.charAt(i) & 255 : 0);
+        }
+        return bytes;
+    }
+
+    static void feed(LeapCapital capital, String text) {
+        for (int i = 0; i < text.length(); i += 24) {
+            capital.feed(eight(text, i), eight(text, i + 8), eight(text, i + 16));
+        }
+    }
+
+    static int realm(LeapCapital capital, String text) {
+        feed(capital, text);
+        return capital.realm();
+    }
+
+    static int reign(LeapCapital capital, String text) {
+        feed(capital, text);
+        return capital.reign();
+    }
+
+    /** A new object with this REALM. */
+    static LeapCapital told(String text) {
+        LeapCapital capital = new LeapCapital();
+        due("realm of " + text, realm(capital, text), 0);
+        return capital;
+    }
+
+    static void dueRealm(String text, int kind, int place) {
+        due("realm of <" + text + ">", realm(new LeapCapital(), text), kind + 16 * place);
+    }
+
+    static void dueReign(LeapCapital capital, String text, int kind, int place) {
+        due("reign of <" + text + ">", reign(capital, text), kind + 16 * place);
+    }
+
+    /** The order in which the QUEUE would be called, as a row of digits. */
+    static String calls(LeapCapital capital) {
+        StringBuilder row = new StringBuilder();
+        for (int i = 0; capital.call(i) != LeapCapital.NONE; i++) {
+            row.append(capital.call(i));
+        }
+        return row.toString();
+    }
+
+    static void dueCalls(LeapCapital capital, String want) {
+        String got = calls(capital);
+        looked++;
+        if (!got.equals(want)) {
+            wrong++;
+            System.out.println("calls answered " + got + ", due is " + want);
+        }
+    }
+
+    /** The rests as rests(..) answers it; -100 stands for NoSuchElementException. */
+    static int rests(LeapCapital capital, int lose, int goes, int stays, int what) {
+        try {
+            return capital.rests(lose, goes, stays, what);
+        } catch (NoSuchElementException e) {
+            return -100;
+        }
+    }
+
+    static String times(String text, int n) {
+        return text.repeat(n);
+    }
+}
