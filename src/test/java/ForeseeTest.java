@@ -154,6 +154,8 @@ public final class ForeseeTest {
         }
         Check.due("need of the fourth", w.need(3), 80);
         Check.due("need of the fifth: 100 is too long", w.need(4), -1);
+        w.lamp(1);
+        Check.due("need of the fifth: 99 and a lamp", w.need(4), 99);
     }
 
     private static String sixOf(int plea) {

@@ -193,6 +193,15 @@ public final class GuessTest {
         Check.due("back to 0", x.mark(0, true), true);
         dueCounts(x, there);
         Check.due("nothing on 1", x.mark(1, true), false);
+        LeapCapital y = new LeapCapital();
+        y.mark(0, false);
+        y.say(4, true);
+        y.mark(1, false);
+        y.mark(0, true);
+        y.say(0, false);
+        Check.due("said since", y.fits(0), 1515);
+        y.mark(1, true);
+        Check.due("said then", y.fits(0), 485);
     }
 
     private static void dueCounts(LeapCapital x, int[] want) {

@@ -185,6 +185,13 @@ public final class HandTest {
         y.waits();
         y.come(2);
         Check.dueCalls(y, "2410");
+        // A NUMBER is a number whatever the facts are.
+        LeapCapital w = Check.told("person a plain born 1890 plea 15;person b plain born 1890 plea 19;first asks*(0=1);");
+        w.come(0);
+        w.come(1);
+        w.ride();
+        Check.due("days", w.person(0, 7), 1);
+        Check.dueCalls(w, "01");
         // On a DAY, that DAY is one of those since they came.
         LeapCapital z = Check.told(people + "year 1903;candle 9;first (days=1)*asks-(days<1)*asks;");
         z.come(4);

@@ -197,6 +197,8 @@ public final class TapeTest {
         Check.dueReign(x, "ride", 1, 4);
         Check.dueReign(x, "year 5;", 1, 0);
         Check.dueReign(x, "ann;", 1, 0);
+        Check.dueReign(x, "plain;", 1, 0);
+        Check.dueReign(x, "first;", 1, 0);
         Check.dueReign(x, Check.times("wait;", 40), 0, 0);
         Check.due("forty lines", x.count(9), 40);
         Check.dueReign(x, Check.times("wait;", 41), 5, 200);
@@ -232,5 +234,9 @@ public final class TapeTest {
         x.waits();
         x.come(0);
         Check.dueCalls(x, "10");
+        Check.due("no law once more", Check.realm(x, "person a plain born 1890 plea 1;person b plain born 1890 plea 9;"), 0);
+        x.come(0);
+        x.come(1);
+        Check.dueCalls(x, "01");
     }
 }
