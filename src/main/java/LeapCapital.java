@@ -482,7 +482,7 @@ public final class LeapCapital {
         for (int i = 0; i < size && i < row.length; i++) {
             trial.enter(row[i]);
         }
-        for (int day = 0; day < days; day++) {
+        for (int day = 0; day < days && trial.size > 0; day++) {
             hearing.passToDay(realm, trial, realm.candle);
         }
         return Integer.bitCount(trial.heard & ~court.heard);
