@@ -138,7 +138,7 @@ public final class LeapCapital {
     }
 
     public int lamp(int more) {
-        if (!court.mayLight(more)) {
+        if (more < 1 || more > MOST_LAMP) {
             return NONE;
         }
         remember();
@@ -223,9 +223,6 @@ public final class LeapCapital {
                 trial.goOut(part);
                 return true;
             case Tape.LAMP:
-                if (!trial.mayLight(part)) {
-                    return false;
-                }
                 trial.light(part);
                 return true;
             case Tape.WAIT:
@@ -602,10 +599,7 @@ public final class LeapCapital {
         for (int i = 0; i < years; i++) {
             drawVisit();
             if (draw(6) == 0) {
-                int more = draw(20) + 1;
-                if (trial.mayLight(more)) {
-                    trial.light(more);
-                }
+                trial.light(draw(MOST_LAMP) + 1);
             }
             hearing.passYear(realm, trial, false);
         }
@@ -992,12 +986,9 @@ public final class LeapCapital {
             size = left;
         }
 
-        boolean mayLight(int more) {
-            return more >= 1 && more <= MOST_LAMP && lamps + more <= MOST_LAMPS;
-        }
-
+        /** What is beyond the most there can be is lost, but the LAMP is done. */
         void light(int more) {
-            lamps += more;
+            lamps = Math.min(MOST_LAMPS, lamps + more);
         }
 
         void changePlaces(int person, int other) {

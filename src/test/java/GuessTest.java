@@ -150,6 +150,26 @@ public final class GuessTest {
         y.waits();
         Check.due("those heard ahead don't count", y.ages(5, 9, 0), 0);
         Check.due("without people", new LeapCapital().ages(7, 99, 0), 0);
+        agesByLamps();
+    }
+
+    private static void agesByLamps() {
+        LeapCapital x = Check.told("person a plain born 1890 plea 20;person b plain born 1890 plea 20;"
+                + "person c plain born 1890 plea 20;person d plain born 1890 plea 1;person e plain born 1890 plea 1;"
+                + "year 1903;candle 1;");
+        for (int person = 0; person < 5; person++) {
+            x.come(person);
+        }
+        x.lamp(20);
+        x.lamp(20);
+        x.lamp(19);
+        // Seed 13 draws 22290 mod 5: a; 13853 mod 8: he stays; 11622 mod 6 = 0: a lamp of 27833 mod 20 and 1, 14.
+        // 60 of lamps, not 59 and not 73, and the candle's one hear a, b, c and d.
+        Check.due("heard by 60 of lamps", x.ages(13, 1, 0), 4);
+        Check.due("queue", x.ages(13, 1, 1), 16);
+        // Seed 37: 425 mod 5: a; 30044 mod 8 = 4; 14640 mod 6 = 0: a lamp of 15701 mod 20 and 1, 2.
+        Check.due("heard by 60 of lamps", x.ages(37, 1, 0), 4);
+        Check.due("all is as ahead", x.count(4), 59);
     }
 
     private static void marks() {

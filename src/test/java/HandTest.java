@@ -3,6 +3,10 @@ public final class HandTest {
     private static final String FOUR = "person ann plain born 1850 plea 6;person bo leap born 1884 plea 5;"
             + "person cy heir born 1700 plea 4;person dee lover born 1899 plea 8;lives 60;candle 12;";
 
+    private static final String SIXTY_THREE = "person a plain born 1890 plea 20;person b plain born 1890 plea 20;"
+            + "person c plain born 1890 plea 20;person d plain born 1890 plea 1;person e plain born 1890 plea 1;"
+            + "person f plain born 1890 plea 1;candle 1;";
+
     public static void main(String[] args) {
         people();
         comingAndLeaving();
@@ -119,10 +123,19 @@ public final class HandTest {
         Check.due("lamp(20)", x.lamp(20), 20);
         Check.due("lamp(20)", x.lamp(20), 40);
         Check.due("lamp(1)", x.lamp(1), 41);
-        Check.due("lamp(20), beyond 60", x.lamp(20), -1);
-        Check.due("lamp(19)", x.lamp(19), 60);
-        Check.due("lamp(1), beyond 60", x.lamp(1), -1);
+        Check.due("lamp(18)", x.lamp(18), 59);
+        Check.due("lamp(20), beyond 60", x.lamp(20), 60);
+        Check.due("lamp(1), beyond 60", x.lamp(1), 60);
+        for (int other : new int[] {0, -1, 21, Integer.MIN_VALUE, Integer.MAX_VALUE}) {
+            Check.due("lamp(" + other + ") of 60", x.lamp(other), -1);
+        }
         Check.due("count(4)", x.count(4), 60);
+        Check.due("each of them is done", x.count(11), 6);
+        Check.due("undo", x.undo(), true);
+        Check.due("60 still", x.count(4), 60);
+        Check.due("undo", x.undo(), true);
+        Check.due("as it was, not 20 less", x.count(4), 59);
+        Check.due("lamp(1)", x.lamp(1), 60);
         x.come(0);
         for (int i = 0; i < 7; i++) {
             Check.due("no DAY", x.waits(), 0);
@@ -133,6 +146,19 @@ public final class HandTest {
         x.lamp(3);
         x.ride();
         Check.due("gone without a queue, too", x.count(4), 0);
+        // Of 59 and 20 more 60 are left, and the candle's one: 61 burn, not 60 and not 63.
+        LeapCapital y = Check.told(SIXTY_THREE);
+        for (int person = 0; person < 6; person++) {
+            y.come(person);
+        }
+        y.lamp(20);
+        y.lamp(20);
+        y.lamp(19);
+        y.lamp(20);
+        Check.due("burnt", y.burnt(1), 61);
+        Check.due("audience", y.audience(1), 15);
+        Check.due("need of the last one", y.need(5), 3);
+        Check.due("ride", y.ride(), 15);
     }
 
     private static void waiting() {
@@ -313,8 +339,14 @@ public final class HandTest {
         dueJudged(x, "leave ann;come ann;ride;", 0, 2, 1);
         dueJudged(x, "come dee;wait;wait;wait;come dee;come cy;come bo;ride;ride;", 0, 7, 3);
         dueJudged(x, "come ann;come cy;come bo;lamp 20;ride;come ann;", 5, 4, 3);
-        dueJudged(x, "lamp 20;lamp 20;lamp 20;lamp 1;", 3, -1, 0);
+        dueJudged(x, "lamp 20;lamp 20;lamp 20;lamp 1;lamp 20;", -1, -1, 0);
+        dueJudged(x, "lamp 20;lamp 20;lamp 20;lamp 1;leave ann;", 4, -1, 0);
         dueJudged(x, "lamp 20;lamp 20;lamp 20;ride;lamp 1;", -1, -1, 0);
+        LeapCapital y = Check.told(SIXTY_THREE);
+        String all = "come a;come b;come c;come d;come e;come f;";
+        dueJudged(y, all + "lamp 20;lamp 20;lamp 19;ride;", -1, 9, 3);
+        dueJudged(y, all + "lamp 20;lamp 20;lamp 19;lamp 20;ride;", -1, 10, 4);
+        dueJudged(y, all + "lamp 20;lamp 20;lamp 20;lamp 20;ride;", -1, 10, 4);
         // From the beginning, not from now on; and all is as ahead then.
         Check.reign(x, "come ann;ride;");
         x.come(0);

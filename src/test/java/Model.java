@@ -481,16 +481,19 @@ final class Model {
         return true;
     }
 
-    private static boolean canLight(State s, int more) {
-        return more > 0 && more < 21 && s.lamps + more < 61;
+    private static void light(State s, int more) {
+        s.lamps += more;
+        if (s.lamps > 60) {
+            s.lamps = 60;
+        }
     }
 
     int lamp(int more) {
-        if (!canLight(now, more)) {
+        if (more <= 0 || more >= 21) {
             return -1;
         }
         remember();
-        now.lamps += more;
+        light(now, more);
         return now.lamps;
     }
 
@@ -530,8 +533,7 @@ final class Model {
                     can = s.queue.remove((Integer) line.part());
                     break;
                 case "lamp":
-                    can = canLight(s, line.part());
-                    s.lamps += can ? line.part() : 0;
+                    light(s, line.part());
                     break;
                 case "wait":
                     year(s, candle(), false);
@@ -789,8 +791,7 @@ final class Model {
                 }
             }
             if (draw(g, 6) == 0) {
-                int more = 1 + draw(g, 20);
-                s.lamps += canLight(s, more) ? more : 0;
+                light(s, 1 + draw(g, 20));
             }
             heard += year(s, candle(), false).size();
         }
