@@ -1000,7 +1000,7 @@ public final class LeapCapital {
             }
         }
 
-        /** The DAY that begins is one of the DAYS since they came. */
+        /** A DAY that was held is one of the DAYS since they came, for those who are still in the QUEUE. */
         void countDay() {
             for (int place = 0; place < size && place < queue.length; place++) {
                 int person = queue[place];
@@ -1036,12 +1036,13 @@ public final class LeapCapital {
             if (!day) {
                 return 0;
             }
-            court.countDay();
             putInOrder(realm, court);
             hearAll(realm, candle + court.lamps);
             court.takeOut(heard);
             court.heard |= heard;
             court.lamps = 0;
+            // Only now, as they are called in the order of CALL: by the DAYS ahead of this one.
+            court.countDay();
             return heard;
         }
 

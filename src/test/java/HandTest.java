@@ -218,12 +218,13 @@ public final class HandTest {
         w.ride();
         Check.due("days", w.person(0, 7), 1);
         Check.dueCalls(w, "01");
-        // On a DAY, that DAY is one of those since they came.
+        // On a DAY, that DAY is not yet one of those since they came.
         LeapCapital z = Check.told(people + "year 1903;candle 9;first (days=1)*asks-(days<1)*asks;");
         z.come(4);
         z.come(1);
         Check.dueCalls(z, "41");
-        Check.due("the ninth is heard", z.waits(), 2);
+        Check.due("the sixth is heard", z.waits(), 16);
+        Check.due("days behind it", z.person(1, 7), 1);
     }
 
     private static void lovers() {

@@ -402,9 +402,6 @@ final class Model {
         if (julian ? s.year % 4 != 0 : !isLeap(s.year)) {
             return heard;
         }
-        for (int p : s.queue) {
-            s.days.merge(p, 1, Integer::sum);
-        }
         int all = candle + s.lamps;
         int left = all;
         List<Integer> row = order(s);
@@ -424,6 +421,7 @@ final class Model {
         s.queue.removeAll(heard);
         s.heard.addAll(heard);
         s.lamps = 0;
+        s.queue.forEach(p -> s.days.merge(p, 1, Integer::sum));
         return heard;
     }
 

@@ -92,9 +92,17 @@ public final class ModelTest {
             text.append("candle ").append(1 + below(40)).append(';');
         }
         if (below(4) > 0) {
-            text.append("first ").append(drawLaw(0)).append(';');
+            text.append("first ").append(below(3) == 0 ? drawLawOfDays() : drawLaw(0)).append(';');
         }
         return text.toString();
+    }
+
+    /** Not linear in days: a DAY more or less for all changes the order. */
+    private String drawLawOfDays() {
+        int n = below(4);
+        String[] laws = {"days=" + n, "not(days=" + n + ")", "days<" + n, n + "<days", "days*(" + n + "-days)",
+            "(days=" + n + ")*asks", "stood*(days<" + n + ")+asks", "(days=1)*9-(days=" + n + ")*age"};
+        return laws[below(laws.length)];
     }
 
     private String drawLaw(int depth) {
