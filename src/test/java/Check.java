@@ -2,8 +2,12 @@ import java.util.NoSuchElementException;
 
 /** What the tests share: texts fed to the tape, answers compared, an exit code at the end. */
 final class Check {
+    /** Far from all bounds, on both sides. */
+    static final int[] FAR = {Integer.MIN_VALUE, Integer.MIN_VALUE + 1, -65536, -256, 65536, Integer.MAX_VALUE - 1, Integer.MAX_VALUE};
+
     private static int wrong = 0;
     private static int looked = 0;
+    private static String sentence = "";
 
     private Check() {
     }
@@ -12,8 +16,13 @@ final class Check {
         looked++;
         if (got != want) {
             wrong++;
-            System.out.println(what + " answered " + got + ", due is " + want);
+            System.out.println(what + " answered " + got + ", due is " + want + sentence);
         }
+    }
+
+    /** The document's sentence that the next answers are about: told with each that is not as due. */
+    static void says(String words) {
+        sentence = " (the document: " + words + ")";
     }
 
     static void due(String what, boolean got, boolean want) {
@@ -59,12 +68,43 @@ final class Check {
         return capital;
     }
 
+    /** A long text's beginning and end. */
+    private static String shown(String text) {
+        int length = text.length();
+        return "<" + (length > 120 ? text.substring(0, 60) + " .. " + text.substring(length - 50) : text) + ">";
+    }
+
     static void dueRealm(String text, int kind, int place) {
-        due("realm of <" + text + ">", realm(new LeapCapital(), text), kind + 16 * place);
+        due("realm of " + shown(text), realm(new LeapCapital(), text), kind + 16 * place);
+    }
+
+    /** A text read by a new object as a REALM; the token that is wrong stands behind ^. */
+    static void faultOfRealm(int kind, String marked) {
+        dueRealm(marked.replace("^", ""), kind, marked.indexOf('^'));
+    }
+
+    /** The same of a REIGN. */
+    static void faultOfReign(LeapCapital capital, int kind, String marked) {
+        dueReign(capital, marked.replace("^", ""), kind, marked.indexOf('^'));
+    }
+
+    static void readsRealm(String text) {
+        dueRealm(text, 0, 0);
+    }
+
+    static void readsReign(LeapCapital capital, String text) {
+        dueReign(capital, text, 0, 0);
+    }
+
+    /** All counts from 0 on. */
+    static void dueCounts(String when, LeapCapital capital, int... want) {
+        for (int what = 0; what < want.length; what++) {
+            due(when + ": count(" + what + ")", capital.count(what), want[what]);
+        }
     }
 
     static void dueReign(LeapCapital capital, String text, int kind, int place) {
-        due("reign of <" + text + ">", reign(capital, text), kind + 16 * place);
+        due("reign of " + shown(text), reign(capital, text), kind + 16 * place);
     }
 
     /** The order in which the QUEUE would be called, as a row of digits. */
@@ -81,7 +121,7 @@ final class Check {
         looked++;
         if (!got.equals(want)) {
             wrong++;
-            System.out.println("calls answered " + got + ", due is " + want);
+            System.out.println("calls answered " + got + ", due is " + want + sentence);
         }
     }
 
