@@ -354,6 +354,13 @@ public final class BoundsForeseeTest {
         LeapCapital both = queue("person a heir born 1 plea 1;year 1996;", 0);
         Check.due("400 divides 2000", both.julian(4), 0);
         Check.due("nobody is there", new LeapCapital().julian(99), 0);
+        Check.says("if each year that 4 divides were a LEAP year");
+        // 1900 and 1904, not 1904 and 1908.
+        LeapCapital two = queue("person a heir born 1 plea 10;person b heir born 1 plea 10;year 1896;", 0, 1);
+        int[] heard = {0, 0, 0, 1, 1, 1, 1, 2, 2, 2, 2, 0};
+        for (int years = 1; years <= 12; years++) {
+            Check.due("julian(" + years + ") of two", two.julian(years), heard[years - 1]);
+        }
         Check.says("from now on");
         LeapCapital now = queue("person a heir born 1 plea 1;year 1900;", 0);
         Check.due("not this year", now.julian(1), 0);

@@ -16,6 +16,7 @@ public final class BoundsGuessTest {
         whichRest();
         agesAsked();
         agesOfOneYear();
+        agesOfOnePerson();
         agesOfNobody();
         agesWhoComes();
         whichMarks();
@@ -141,6 +142,17 @@ public final class BoundsGuessTest {
         Check.due("ask behind three", none.ask(), asked(0, 1, 2));
         none.say(3, false);
         Check.due("ask behind four", none.ask(), asked(0, 1, 2, 3));
+        // Asked again, it is counted anew.
+        LeapCapital again = new LeapCapital();
+        for (int i = 0; i < 4; i++) {
+            Check.due("ask again", again.ask(), 0);
+        }
+        again.mark(0, false);
+        again.say(0, false);
+        Check.due("ask behind say(0, false)", again.ask(), 1);
+        Check.due("ask again", again.ask(), 1);
+        again.mark(0, true);
+        Check.due("back to where nothing was SAID", again.ask(), 0);
     }
 
     /** What is to be asked when so many years behind it, each of these, there is no LEAP year. */
@@ -315,6 +327,25 @@ public final class BoundsGuessTest {
         Check.due("some left", left > 0, true);
     }
 
+    private static void agesOfOnePerson() {
+        Check.says("if there are PERSONS: a DRAW below these (one: it is drawn all the same)");
+        LeapCapital x = null;
+        int heard = 0;
+        for (int i = 0; i < 300; i++) {
+            int seed = 33 * i;
+            if (i % 100 == 0) {
+                x = Check.told("person a plain born 1890 plea 20;year 1903;candle 19;");
+            }
+            Draws draws = new Draws(seed);
+            draws.below(1);
+            int lit = draws.below(6) == 0 ? 1 : 0;
+            heard += lit;
+            Check.due("he comes, and is HEARD by a lamp: ages(" + seed + ", 1, 0)", x.ages(seed, 1, 0), lit);
+            Check.due("else he is in the QUEUE: ages(" + seed + ", 1, 1)", x.ages(seed, 1, 1), 1 - lit);
+        }
+        Check.due("some are HEARD, some not", heard > 0 && heard < 300, true);
+    }
+
     private static void agesOfNobody() {
         Check.says("each, if there are PERSONS: a DRAW below these");
         LeapCapital x = new LeapCapital();
@@ -419,6 +450,7 @@ public final class BoundsGuessTest {
             x.come(0);
             x.lamp(20);
             x.say(0, false);
+            x.mark(3 - mark, false);
             Check.reign(x, "wait;");
             Check.due("back", x.mark(mark, true), true);
             Check.dueCounts("back on " + mark, x, 3, 1904, 10, 70, 9, 2, 5, 2, 0, 3, 1, 0, 0);
@@ -429,6 +461,16 @@ public final class BoundsGuessTest {
             Check.due("judged", x.judged(0), 1);
             Check.due("fits", x.fits(0), 485);
         }
+        // What is SAID from the first one on.
+        LeapCapital first = new LeapCapital();
+        first.mark(0, false);
+        first.say(4, true);
+        first.mark(1, false);
+        first.mark(0, true);
+        first.say(0, false);
+        Check.due("another first one", first.fits(0), 1515);
+        first.mark(1, true);
+        Check.due("the first one as it was", first.fits(0), 485);
         // The eighth saying and the fortieth line, too.
         LeapCapital y = new LeapCapital();
         Check.reign(y, Check.times("ride;", 39) + "lamp 7;");

@@ -173,6 +173,13 @@ public final class BoundsLawTest {
         worth("0012", "12");
         worth("9999", "9999");
         worth("9999+1", "100*100");
+        // Whatever the facts are: 0 is not the DAYS since.
+        LeapCapital x = Check.told("person a plain born 1890 plea 19;person b plain born 1890 plea 20;first asks*(0=1);");
+        x.come(0);
+        x.come(1);
+        x.ride();
+        Check.due("a DAY since", x.person(0, 7), 1);
+        Check.dueCalls(x, "01");
     }
 
     private static void intsWrap() {

@@ -22,6 +22,7 @@ public final class BoundsRealmTest {
         theEnd();
         aFaultChangesNothing();
         aRealmBeginsAnew();
+        namesOfEarlierRealms();
         aReignIsTheReign();
         Check.end();
     }
@@ -343,6 +344,24 @@ public final class BoundsRealmTest {
             Check.due("come(0)", x.come(0), text.isEmpty() ? -1 : 0);
             Check.due("come(1)", x.come(1), -1);
         }
+    }
+
+    private static void namesOfEarlierRealms() {
+        Check.says("2 a NAME of no PERSON told; 3 a NAME told already (in this REALM)");
+        LeapCapital x = Check.told(persons(6));
+        for (int i = 0; i < 3; i++) {
+            Check.due("another realm", Check.realm(x, "person q plain born 1 plea 1;"), 0);
+            Check.faultOfReign(x, 2, "come ^pa;");
+            Check.faultOfReign(x, 2, "come ^pb;");
+            Check.faultOfReign(x, 2, "leave ^pf;");
+            Check.readsReign(x, "come q;");
+        }
+        Check.due("told anew", Check.realm(x, "person pb plain born 1 plea 1;person pa plain born 1 plea 1;"), 0);
+        Check.due("told anew", Check.realm(x, "person pf plain born 1 plea 1;person q plain born 1 plea 1;person pb plain born 1 plea 1;"), 0);
+        Check.faultOfReign(x, 2, "come ^pa;");
+        Check.due("a wrong one", Check.realm(x, "person z plain born 1 plea 1;person y plain born 0"), 4 + 16 * 49);
+        Check.faultOfReign(x, 2, "come ^z;");
+        Check.readsReign(x, "come pf;come q;come pb;");
     }
 
     private static void aReignIsTheReign() {
