@@ -187,6 +187,9 @@ public final class BoundsTapeTest {
         }
         // 4294967297 is 1 in 32 bits: a NUMBER that long is none.
         Check.faultOfRealm(1, "year ^4294967297;");
+        // Nor is it one of the signs, though 59 is the code of ; and 40 and 41 are those of ( ).
+        Check.faultOfRealm(1, "year 1 ^00059");
+        Check.faultOfRealm(1, "first ^00040 1 00041;");
         Check.readsRealm("first 9999;");
         Check.readsRealm("first 0;");
         LeapCapital x = new LeapCapital();
