@@ -29,8 +29,7 @@ public final class LeapCapital {
     private static final int HEIR_KIND = 2;
     private static final int LOVER_KIND = 3;
 
-    private final Tape tape = new Tape();
-    private final Scribe scribe = new Scribe(tape);
+    private final Scribe scribe = new Scribe();
     private Realm realm = new Realm();
     private Realm spareRealm = new Realm();
     private Reign reign = new Reign();
@@ -61,15 +60,15 @@ public final class LeapCapital {
     // ---- the tape ----
 
     public int feed(long a, long b, long c) {
-        tape.addSigns(a);
-        tape.addSigns(b);
-        tape.addSigns(c);
-        return tape.length;
+        scribe.tape.addSigns(a);
+        scribe.tape.addSigns(b);
+        scribe.tape.addSigns(c);
+        return scribe.tape.length;
     }
 
     public int realm() {
         int fault = scribe.readRealm(spareRealm);
-        tape.empty();
+        scribe.tape.empty();
         if (fault != 0) {
             return fault;
         }
@@ -90,7 +89,7 @@ public final class LeapCapital {
 
     public int reign() {
         int fault = scribe.readReign(realm, spareReign);
-        tape.empty();
+        scribe.tape.empty();
         if (fault != 0) {
             return fault;
         }
@@ -667,7 +666,7 @@ public final class LeapCapital {
             case 9: return reign.size;
             case 10: return sayings.size;
             case 11: return undoable;
-            case 12: return tape.length;
+            case 12: return scribe.tape.length;
             default: return NONE;
         }
     }
@@ -1355,14 +1354,10 @@ public final class LeapCapital {
         private static final int TOO_MANY = 5;
         private static final int TOO_DEEP = 5;
 
-        private final Tape tape;
+        private final Tape tape = new Tape();
         private int fault = 0;
         // The words that may be told once and have been, as bits by their places in WORDS.
         private int told = 0;
-
-        Scribe(Tape tape) {
-            this.tape = tape;
-        }
 
         int readRealm(Realm realm) {
             fault = 0;
@@ -1370,37 +1365,33 @@ public final class LeapCapital {
             realm.clear();
             tape.start();
             for (int i = 0; i < MOST_SIGNS && fault == 0 && tape.sort != Tape.END; i++) {
-                readRealmLine(realm);
+                switch (tape.word()) {
+                    case Tape.PERSON:
+                        readPerson(realm);
+                        break;
+                    case Tape.YEAR:
+                        takeOnce();
+                        realm.year = takeNumber(1, 3000);
+                        break;
+                    case Tape.CANDLE:
+                        takeOnce();
+                        realm.candle = takeNumber(1, 40);
+                        break;
+                    case Tape.LIVES:
+                        takeOnce();
+                        realm.lives = takeNumber(1, 120);
+                        break;
+                    case Tape.FIRST:
+                        takeOnce();
+                        realm.law.clear();
+                        readWhole(realm.law, 0);
+                        break;
+                    default:
+                        refuse(CANNOT_STAND);
+                }
+                takeSign(';');
             }
             return fault;
-        }
-
-        private void readRealmLine(Realm realm) {
-            switch (tape.word()) {
-                case Tape.PERSON:
-                    readPerson(realm);
-                    break;
-                case Tape.YEAR:
-                    takeOnce();
-                    realm.year = takeNumber(1, 3000);
-                    break;
-                case Tape.CANDLE:
-                    takeOnce();
-                    realm.candle = takeNumber(1, 40);
-                    break;
-                case Tape.LIVES:
-                    takeOnce();
-                    realm.lives = takeNumber(1, 120);
-                    break;
-                case Tape.FIRST:
-                    takeOnce();
-                    realm.law.clear();
-                    readWhole(realm.law, 0);
-                    break;
-                default:
-                    refuse(CANNOT_STAND);
-            }
-            takeSign(';');
         }
 
         private void readPerson(Realm realm) {
